@@ -39,7 +39,8 @@ public final class WolfHalf {
     public WolfHalf() {
         Mountain empty = new Mountain();
         tape = new Tape();
-        reader = new Reader(tape);
+        draft = new Mountain();
+        reader = new Reader(tape, draft);
         now = new Valley(empty);
         book = new Book();
         ahead = new Valley(empty);
@@ -50,7 +51,6 @@ public final class WolfHalf {
         for (int i = 0; i < MARKS; i++) {
             marks[i] = new Mark(empty);
         }
-        draft = new Mountain();
     }
 
     public int feed(long a, long b, long c) {
@@ -391,31 +391,26 @@ public final class WolfHalf {
             place = at;
             end = at >= length;
             word = 0;
+            number = NONE;
+            sign = 0;
             while (at < length && signs[at] >= 'a' && signs[at] <= 'z') {
                 word = word << 8 | signs[at];
                 at++;
             }
-            boolean letters = at > place;
-            if (at - place > LONGEST_WORD) {
-                word = 0;
+            if (at > place) {
+                word = at - place <= LONGEST_WORD ? word : 0;
+                return;
             }
-            number = NONE;
-            sign = 0;
-            if (!letters && !end) {
-                nextNumberOrSign();
-            }
-        }
-
-        private void nextNumberOrSign() {
             int value = 0;
             while (at < length && signs[at] >= '0' && signs[at] <= '9') {
                 value = value * 10 + (signs[at] - '0');
                 at++;
             }
-            int digits = at - place;
-            if (digits > 0) {
-                number = digits <= LONGEST_NUMBER ? value : NONE;
-            } else if (at < length) {
+            if (at > place) {
+                number = at - place <= LONGEST_NUMBER ? value : NONE;
+                return;
+            }
+            if (at < length) {
                 char c = signs[at];
                 boolean counts = c == '(' || c == ')' || c == '<' || c == '=' || c == '+' || c == '-' || c == '*' || c == ';';
                 sign = counts ? c : 0;
@@ -645,10 +640,10 @@ public final class WolfHalf {
         private Law law;
         private int fault;
 
-        Reader(Tape tape) {
+        Reader(Tape tape, Mountain draft) {
             this.tape = tape;
-            told = new Mountain();
-            law = new Law();
+            told = draft;
+            law = draft.feeding;
         }
 
         int read(Mountain draft) {
@@ -701,9 +696,12 @@ public final class WolfHalf {
                 refuse(TOLD_ALREADY);
             }
             tape.next();
-            int flock = numberBehind(WORD_FLOCK, MOST_FLOCK);
-            int dogs = numberBehind(WORD_DOGS, MOST_DOGS);
-            int hunger = numberBehind(WORD_WOLF, MOST_HUNGER);
+            readWord(WORD_FLOCK);
+            int flock = readNumber(MOST_FLOCK);
+            readWord(WORD_DOGS);
+            int dogs = readNumber(MOST_DOGS);
+            readWord(WORD_WOLF);
+            int hunger = readNumber(MOST_HUNGER);
             readSign(';');
             if (fault == 0) {
                 told.addFarm(name, flock, dogs, hunger);
@@ -912,12 +910,11 @@ public final class WolfHalf {
             return farm == NONE ? 0 : farm;
         }
 
-        private int numberBehind(long word, int most) {
+        private void readWord(long word) {
             if (tape.word != word) {
                 refuse(CANT_STAND);
             }
             tape.next();
-            return readNumber(most);
         }
 
         private int readNumber(int most) {
