@@ -100,7 +100,8 @@ final class Stories {
     }
 
     private String part(int in, boolean feed) {
-        int kind = below(in > 5 ? 6 : 10);
+        int deepest = below(40) == 0 ? 6 : 3;
+        int kind = below(in > deepest ? 7 : 10);
         if (kind < 2) {
             return "" + (below(4) == 0 ? below(10000) : below(6));
         }
