@@ -7,13 +7,31 @@ final class Check {
 
     private int passed = 0;
     private int failed = 0;
+    private String sentence = "";
+    private int checkedBefore = 0;
+
+    /** The checks from here on are about this sentence of the document; the one before must have had some. */
+    void sentence(String quoted) {
+        endSentence();
+        sentence = quoted;
+        checkedBefore = passed + failed;
+    }
+
+    private void endSentence() {
+        if (!sentence.isEmpty() && passed + failed == checkedBefore) {
+            failed++;
+            System.out.println("[" + sentence + "] has no check");
+        }
+        sentence = "";
+    }
 
     void is(String what, long got, long due) {
         if (got == due) {
             passed++;
         } else {
             failed++;
-            System.out.println(what + " answered " + got + ", due is " + due);
+            String about = sentence.isEmpty() ? "" : "[" + sentence + "] ";
+            System.out.println(about + what + " answered " + got + ", due is " + due);
         }
     }
 
@@ -31,6 +49,7 @@ final class Check {
 
     /** The last line of a test program; its exit code is 1 if anything was not as due. */
     void close() {
+        endSentence();
         System.out.println(passed + " passed, " + failed + " failed");
         if (failed > 0) {
             System.exit(1);

@@ -1,8 +1,5 @@
 /** Each promise of the document by hand: what it answers, its edges, and what it refuses. */
-public final class PromiseTests {
-    private static final int NONE = -1;
-    private static final Check CHECK = new Check();
-
+public final class PromiseTests extends Telling {
     public static void main(String[] args) {
         promise1();
         promise2();
@@ -33,28 +30,6 @@ public final class PromiseTests {
         promise24();
         promise25();
         CHECK.close();
-    }
-
-    private static WolfHalf told(String text) {
-        WolfHalf x = new WolfHalf();
-        CHECK.is("mountain " + text, Check.mountain(x, text), 0);
-        return x;
-    }
-
-    private static String farm(String name, int flock, int dogs, int wolf) {
-        return "farm " + name + " flock " + flock + " dogs " + dogs + " wolf " + wolf + "; ";
-    }
-
-    private static void fault(String text, int kind, int place) {
-        WolfHalf x = new WolfHalf();
-        CHECK.is("mountain " + text, Check.mountain(x, text), kind + 16 * place);
-        CHECK.is("tape behind " + text, x.count(8), 0);
-        CHECK.is("farms behind " + text, x.count(0), 0);
-    }
-
-    /** A fault in the last token of the text. */
-    private static void faultAtLast(String text, int kind) {
-        fault(text, kind, text.lastIndexOf(' ') + 1);
     }
 
     private static void promise1() {
@@ -233,12 +208,6 @@ public final class PromiseTests {
         CHECK.is("without farms", x.count(0), 0);
         CHECK.is("without fences", x.count(3), 0);
         CHECK.is("feed and go are not kept", Check.mountain(told("feed 9; go 1;"), farm("a", 9, 0, 9)), 0);
-    }
-
-    private static int fedBy(String law) {
-        WolfHalf x = told(farm("a", 5000, 3, 99) + "feed " + law + ";");
-        x.nights(1);
-        return x.gone(0, false);
     }
 
     private static void promise3Reckons() {
