@@ -154,18 +154,10 @@ public final class AheadBoundaryTests extends Telling {
         CHECK.is("g is gone on with: what was lost ahead is lost", on.gone(1, true) - b, lost);
     }
 
-    private static String calm(int farms) {
-        StringBuilder all = new StringBuilder();
-        for (int f = 0; f < farms; f++) {
-            all.append(farm("" + (char) ('a' + f), 50, 0, 9));
-        }
-        return all.toString();
-    }
-
     private static void fourFarms() {
         CHECK.sentence("Terms 3: GAME of 4 FARMS at most; Promise 14: NONE: more than 4 FARMS");
         for (int farms = 0; farms <= 6; farms++) {
-            WolfHalf x = told(calm(farms));
+            WolfHalf x = told(calm(farms, 9));
             boolean may = farms <= 4;
             int last = (1 << 2 * farms) - 1;
             // each alone loses least by 0: one row at rest; the last row is played to it in two rounds
@@ -181,7 +173,7 @@ public final class AheadBoundaryTests extends Telling {
 
     private static void levelsOfRows() {
         CHECK.sentence("Terms 3: each has a LEVEL, 0 to 3; a row of LEVELS as a number: FARM k's times 4 to the k");
-        WolfHalf x = told(calm(4));
+        WolfHalf x = told(calm(4, 9));
         int[] rows = {0, 1, 3, 4, 12, 16, 48, 64, 192, 27, 228, 255};
         for (int row : rows) {
             int rest = row;
@@ -195,7 +187,7 @@ public final class AheadBoundaryTests extends Telling {
     private static void rowsOfLevels() {
         CHECK.sentence("Terms 3: rows of LEVELS: of n FARMS those below 4 to the n; Promises 14, 17: NONE: others");
         for (int farms = 0; farms <= 4; farms++) {
-            WolfHalf x = told(calm(farms));
+            WolfHalf x = told(calm(farms, 9));
             int rows = 1 << 2 * farms;
             int[] wrong = {-1, rows, rows + 1, LEAST, MOST};
             for (int row : wrong) {

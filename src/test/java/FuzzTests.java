@@ -2,6 +2,9 @@ import java.util.Random;
 
 /** Runs of made-up calls, each held against the Oracle; the same runs every time. */
 public final class FuzzTests {
+    /** An object is used for 512 calls at most; one more made-up call may take up to some 90 of them. */
+    private static final int MOST_USED = 420;
+
     private static final Check CHECK = new Check();
 
     private final Random random;
@@ -9,6 +12,7 @@ public final class FuzzTests {
     private final WolfHalf x = new WolfHalf();
     private final Oracle o = new Oracle();
     private int farms = 0;
+    private int used = 0;
 
     private FuzzTests(long run) {
         random = new Random(run);
@@ -27,7 +31,7 @@ public final class FuzzTests {
     private void play(int run) {
         tellMountain(run);
         int calls = 20 + random.nextInt(60);
-        for (int i = 0; i < calls && CHECK.failures() < 20; i++) {
+        for (int i = 0; i < calls && used < MOST_USED && CHECK.failures() < 20; i++) {
             call(run + "." + i + " ");
         }
     }
@@ -56,6 +60,7 @@ public final class FuzzTests {
     private void tellMountain(int run) {
         farms = below(8) == 0 ? 6 : below(6);
         String text = stories.mountain(farms);
+        used += text.length() / 24 + 4;
         for (int from = 0; from < text.length(); from += 24) {
             long a = Check.eight(text, from);
             long b = Check.eight(text, from + 8);
@@ -70,6 +75,7 @@ public final class FuzzTests {
     }
 
     private void call(String at) {
+        used += 2;
         int f = anyFarm();
         int p = anyFarm();
         int nights = anyNights();
@@ -197,6 +203,7 @@ public final class FuzzTests {
     }
 
     private void all(String at) {
+        used += farms * 7 + 1;
         for (int f = 0; f < farms; f++) {
             for (int what = 0; what < 7; what++) {
                 CHECK.is(at + "farm " + f + " " + what, x.farm(f, what), o.farm(f, what));

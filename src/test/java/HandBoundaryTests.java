@@ -14,6 +14,7 @@ public final class HandBoundaryTests extends Telling {
         pactByHand();
         fourMarks();
         marksHoldAll();
+        marksHoldRows();
         marksHoldMarks();
         CHECK.close();
     }
@@ -310,6 +311,73 @@ public final class HandBoundaryTests extends Telling {
         fed.mark(3, true);
         CHECK.is("FED", fed.gone(0, false), 3);
         CHECK.is("what is asked ahead is by the MARK", fed.loss(0, 1), 3);
+    }
+
+    /** Rows that are written anew behind a MARK that was gone back to. */
+    private static void marksHoldRows() {
+        CHECK.sentence("Terms 4: MARKS hold all: each BONE kept, each BITE, the FEUDS of each two");
+        StringBuilder text = new StringBuilder();
+        for (int f = 0; f < 6; f++) {
+            text.append(farm("" + (char) ('a' + f), 9000, f % 2, f % 2 == 0 ? 10 : 0));
+            for (int other = 0; other < f; other++) {
+                text.append("fence ").append((char) ('a' + f)).append(' ').append((char) ('a' + other)).append(" 1;");
+            }
+        }
+        String tail = "go dogs; tooth a 1 2 3 4; tooth c 4 3 2 1; tooth e 5 5 7 8;";
+        WolfHalf x = told(text + tail);
+        x.mark(0, false);
+        x.seed(5);
+        x.nights(60);
+        int[] bites = {1, 2, 3, 4, 1, 2, 3, 1};
+        for (int wide : bites) {
+            x.bite(wide);
+        }
+        CHECK.is("one", x.mark(1, false), true);
+        int[] one = rows(x);
+        CHECK.is("back to the beginning", x.mark(0, true), true);
+        x.seed(77);
+        x.nights(70);
+        for (int wide : bites) {
+            x.bite(5 - wide);
+        }
+        CHECK.is("another", x.mark(2, false), true);
+        int[] other = rows(x);
+        int unlike = 0;
+        CHECK.is("back to the one", x.mark(1, true), true);
+        int[] again = rows(x);
+        CHECK.is("on to the other", x.mark(2, true), true);
+        int[] more = rows(x);
+        for (int i = 0; i < one.length; i++) {
+            CHECK.is("the one " + i, again[i], one[i]);
+            CHECK.is("the other " + i, more[i], other[i]);
+            unlike += yes(one[i] != other[i]);
+        }
+        CHECK.is("they are not alike", unlike > 60, true);
+    }
+
+    /** BONES, FEUDS and odds; fewer calls than an object has in all. */
+    private static int[] rows(WolfHalf x) {
+        int[] all = new int[110];
+        int n = 0;
+        for (int i = 0; i < 64; i++) {
+            int at = (i * 28 + i) % 180;
+            all[n++] = x.bone(at, 1);
+        }
+        all[n++] = x.bone(179, 0);
+        all[n++] = x.bone(179, 2);
+        for (int a = 0; a < 6; a++) {
+            for (int b = 0; b < a; b++) {
+                all[n++] = x.feuds(a, b);
+                all[n++] = x.feuds(b, a);
+            }
+        }
+        for (int f = 0; f < 6; f += 2) {
+            all[n++] = x.whose(f, 0);
+            all[n++] = x.whose(f, 1);
+        }
+        all[n++] = x.bones();
+        all[n++] = x.count(7);
+        return all;
     }
 
     private static void marksHoldMarks() {

@@ -22,16 +22,9 @@ public final class JoinedBoundaryTests extends Telling {
         wholeSet();
         othersWithoutThem();
         firmByRecount();
+        fromNowOn();
         noSuchRow();
         CHECK.close();
-    }
-
-    private static String calm(int farms) {
-        StringBuilder all = new StringBuilder();
-        for (int f = 0; f < farms; f++) {
-            all.append(farm("" + (char) ('a' + f), 50, 0, 0));
-        }
-        return all.toString();
     }
 
     private static void fiveFarms() {
@@ -39,7 +32,7 @@ public final class JoinedBoundaryTests extends Telling {
         // where nobody loses, nobody leaves: all rows are FIRM
         int[] due = {1, 1, 2, 5, 15, 52, NONE};
         for (int farms = 0; farms <= 6; farms++) {
-            WolfHalf x = told(calm(farms));
+            WolfHalf x = told(calm(farms, 0));
             CHECK.is("firm of " + farms, x.firm(1), due[farms]);
             CHECK.is("firm of " + farms + " in 28", x.firm(28), due[farms]);
             CHECK.is("group of " + farms, x.group(1, 0, 0), farms == 0 || farms == 6 ? NONE : 0);
@@ -69,7 +62,7 @@ public final class JoinedBoundaryTests extends Telling {
         CHECK.sentence("Terms 3: Groups as a row: of each FARM the number of its group, numbered by their first FARMS; rows in order, FARM 0 ahead");
         for (int farms = 1; farms <= 5; farms++) {
             List<int[]> rows = allRows(farms);
-            WolfHalf x = told(calm(farms));
+            WolfHalf x = told(calm(farms, 0));
             for (int i = 0; i < rows.size(); i++) {
                 for (int f = 0; f < farms; f++) {
                     CHECK.is("row " + i + " of " + farms + ", farm " + f, x.group(1, i, f), rows.get(i)[f]);
@@ -243,9 +236,37 @@ public final class JoinedBoundaryTests extends Telling {
         }
     }
 
+    private static void fromNowOn() {
+        CHECK.sentence("Terms 3: JOINED: LOSS in some NIGHTS from now on");
+        // from night 3 on the wolves are fed at HOME, and nothing is less by a PACT
+        WolfHalf x = told(farm("a", 100, 0, 10) + farm("b", 100, 0, 10) + "fence a b 1; feed 10 * (2 < night);");
+        x.mark(0, false);
+        CHECK.is("only together", x.firm(3), 1);
+        CHECK.is("its one row", x.group(3, 1, 0), NONE);
+        x.nights(2);
+        CHECK.is("one night more", x.firm(3), 1);
+        x.nights(1);
+        CHECK.is("apart too, by the nights", x.firm(3), 2);
+        CHECK.is("the second row", x.group(3, 1, 1), 1);
+        CHECK.is("back", x.mark(0, true), true);
+        CHECK.is("only together, by the MARK", x.firm(3), 1);
+        CHECK.is("no second row", x.group(3, 1, 1), NONE);
+        CHECK.is("another MOUNTAIN", Check.mountain(x, calm(2, 0)), 0);
+        CHECK.is("apart too, by the MOUNTAIN", x.firm(3), 2);
+        // whether a's wolf goes to b or to c hangs on the SEED
+        String fork = farm("a", 90, 0, 4) + farm("b", 90, 0, 4) + farm("c", 90, 0, 0) + "fence a b 1; fence a c 1; go 1;";
+        WolfHalf y = told(fork);
+        for (int seed = 0; seed < 40; seed++) {
+            y.seed(seed);
+            WolfHalf twin = told(fork);
+            twin.seed(seed);
+            CHECK.is("by the SEED " + seed, y.firm(1), twin.firm(1));
+        }
+    }
+
     private static void noSuchRow() {
         CHECK.sentence("Promise 19: group: NONE: others, none such");
-        WolfHalf x = told(calm(3));
+        WolfHalf x = told(calm(3, 0));
         int[] rows = {-1, 5, 6, LEAST, MOST};
         for (int i : rows) {
             CHECK.is("row " + i, x.group(1, i, 0), NONE);

@@ -119,7 +119,7 @@ public final class LanguageTests {
     }
 
     private static void useAll(WolfHalf x, long[] fed) {
-        for (int round = 0; round < 10; round++) {
+        for (int round = 0; round < 8; round++) {
             for (int i = 0; i < fed.length; i += 3) {
                 x.feed(fed[i], fed[i + 1], fed[i + 2]);
             }

@@ -18,8 +18,10 @@ public final class LawBoundaryTests extends Telling {
         CHECK.close();
     }
 
+    /** What comes of a law; by one more too, as what is below 0 is fed as 0. */
     private static void is(String law, int due) {
         CHECK.is("fed by " + law, fedBy(law), due);
+        CHECK.is("fed by 1 + " + law, fedBy("1 + (" + law + ")"), due + 1);
     }
 
     private static void fromTheLeft() {

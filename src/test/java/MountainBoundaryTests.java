@@ -15,6 +15,7 @@ public final class MountainBoundaryTests extends Telling {
         lawsOnce();
         names();
         settled();
+        toldAgainAndAgain();
         allStays();
         CHECK.close();
     }
@@ -126,6 +127,9 @@ public final class MountainBoundaryTests extends Telling {
         String text = farm("a", 0, 0, 1) + farm("b", 9, 0, 0) + "fence a b " + high + "; go fence = ";
         CHECK.is("a fence " + high + " high", after(1, text + high + ";").bones(), 1);
         CHECK.is("a fence " + high + " high is not higher", after(1, text + (high + 1) + ";").bones(), 0);
+        String turned = farm("a", 9, 0, 0) + farm("b", 0, 0, 1) + farm("c", 0, 0, 0) + "fence a b " + high + "; fence c a 77; go fence = ";
+        CHECK.is("as high from the other side", after(1, turned + high + ";").bones(), 1);
+        CHECK.is("not higher from the other side", after(1, turned + (high + 1) + ";").bones(), 0);
     }
 
     private static void fenceHigh() {
@@ -272,6 +276,37 @@ public final class MountainBoundaryTests extends Telling {
         CHECK.is("the first NIGHT is 0", x.bone(0, 0), 0);
         CHECK.is("an empty TAPE is a MOUNTAIN", x.mountain(), 0);
         CHECK.is("without FARMS", x.count(0) + x.count(1) + x.count(3) + x.count(4) + x.count(5) + x.bones(), 0);
+    }
+
+    /** Each has a line of every kind; what an earlier one told, or one with a FAULT, is not told again by it. */
+    private static void toldAgainAndAgain() {
+        CHECK.sentence("Terms 1: Without a FAULT it is the MOUNTAIN from then on (and nothing of another one)");
+        String rich = farm("a", 90, 0, 10) + farm("b", 90, 1, 0) + "fence a b 1; pact b a; share a b; tooth a 2 2 2 2; feed 3; go 1;";
+        String poor = farm("a", 90, 0, 10) + farm("b", 90, 1, 0);
+        WolfHalf x = new WolfHalf();
+        for (int round = 0; round < 4; round++) {
+            CHECK.is("told with all", Check.mountain(x, rich), 0);
+            CHECK.is("one share", x.count(5), 1);
+            x.nights(2);
+            CHECK.is("fed by its law", x.gone(0, false), 6);
+            CHECK.is("lean", x.farm(0, 3), 2);
+            CHECK.is("told with a FAULT at its end", Check.mountain(x, rich + "?"), 1 + 16 * rich.length());
+            CHECK.is("gone stays", x.gone(0, false), 6);
+            if (round % 2 == 1) {
+                CHECK.is("told with little", Check.mountain(x, poor), 0);
+                CHECK.is("no fence, no PACT, no share", x.count(3) + x.count(4) + x.count(5), 0);
+                CHECK.is("no NEIGHBOURS, no PACTS", x.farm(0, 5) + x.farm(0, 6), 0);
+                CHECK.is("no tooth", x.tooth(0, 1), 1);
+                CHECK.is("nothing gone", x.gone(0, false), 0);
+                CHECK.is("not lean", x.farm(0, 3), 0);
+                x.nights(28);
+                CHECK.is("without a law", x.gone(0, false), 0);
+                CHECK.is("at its own FARM", x.farm(0, 4), 0);
+            }
+        }
+        CHECK.is("fewer FARMS", Check.mountain(x, farm("c", 1, 1, 1)), 0);
+        CHECK.is("one", x.count(0), 1);
+        CHECK.is("no NAME of another MOUNTAIN", Check.mountain(x, farm("c", 1, 1, 1) + "pact c a;"), 2 + 16 * (farm("c", 1, 1, 1).length() + 7));
     }
 
     private static void allStays() {

@@ -5,6 +5,7 @@ public final class PromiseBoundaryTests extends Telling {
         + "fence b a 5; fence b c 99; pact c a; share a b; feed 2;";
 
     public static void main(String[] args) {
+        callsOfAnObject();
         newObject();
         whatOfFarm();
         noFarms();
@@ -20,8 +21,21 @@ public final class PromiseBoundaryTests extends Telling {
         CHECK.close();
     }
 
+    private static void callsOfAnObject() {
+        CHECK.sentence("An object is used for at most 512 calls after it has been made");
+        WolfHalf nights = new WolfHalf();
+        WolfHalf signs = new WolfHalf();
+        WolfHalf ahead = new WolfHalf();
+        for (int call = 1; call <= 512; call++) {
+            CHECK.is("nights, call " + call, nights.nights(1000), 1000 * call);
+            CHECK.is("feed, call " + call, signs.feed('a', 0, 0), call);
+            CHECK.is("firm, call " + call, ahead.firm(1 + call % 28), 1);
+        }
+    }
+
     private static void newObject() {
         CHECK.sentence("Promise 1: A new object: No FARM");
+        CHECK.is("NONE", WolfHalf.NONE, -1);
         WolfHalf x = new WolfHalf();
         for (int what = 0; what <= 8; what++) {
             CHECK.is("count " + what, x.count(what), 0);
@@ -225,13 +239,10 @@ public final class PromiseBoundaryTests extends Telling {
         x.nights(57);
         x.bite(3);
         x.feed(0x4142L, 0, 0x43L);
-        int[] due = {3, 57, 2, 2, 1, 1, 1, -2, 3};
+        int[] due = {3, 57, 2, 2, 1, 1, 1, x.feuds(0, 1) + x.feuds(0, 2) + x.feuds(1, 2), 3};
         for (int what = 0; what <= 8; what++) {
-            if (what != 7) {
-                CHECK.is("count " + what, x.count(what), due[what]);
-            }
+            CHECK.is("count " + what, x.count(what), due[what]);
         }
-        CHECK.is("FEUDS in all", x.count(7), x.feuds(0, 1) + x.feuds(0, 2) + x.feuds(1, 2));
         for (int what : new int[] {-1, 9, 10, LEAST, MOST}) {
             CHECK.is("count " + what, x.count(what), NONE);
         }

@@ -22,6 +22,15 @@ abstract class Telling {
         return "farm " + name + " flock " + flock + " dogs " + dogs + " wolf " + wolf + "; ";
     }
 
+    /** So many farms without a dog or a fence: a, b, c .. */
+    static String calm(int farms, int hunger) {
+        StringBuilder all = new StringBuilder();
+        for (int f = 0; f < farms; f++) {
+            all.append(farm("" + (char) ('a' + f), 50, 0, hunger));
+        }
+        return all.toString();
+    }
+
     /** What the law of feeding makes of a flock of 5000, 3 dogs, hunger 99, night 0; 0 to 99 of it are seen. */
     static int fedBy(String law) {
         return after(1, farm("a", 5000, 3, 99) + "feed " + law + ";").gone(0, false);
